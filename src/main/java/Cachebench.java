@@ -582,7 +582,7 @@ public final class Cachebench {
     private static int least(int set, long[] ranks) {
         int found = NONE;
         long foundRank = 0;
-        for (int key = 0; key < KEYS && key < ranks.length; key++) {
+        for (int key = 0; key < ranks.length; key++) {
             if ((set >> key & 1) != 0 && (found == NONE || ranks[key] < foundRank)) {
                 found = key;
                 foundRank = ranks[key];
@@ -657,7 +657,7 @@ public final class Cachebench {
             put(key, length, newKey);
             put(write, length, isWrite ? 1 : 0);
             put(minute, length, present);
-            length++;
+            length = Math.min(length + 1, LONGEST_ROW);
         }
 
         int timesAsked(int asked) {
@@ -933,7 +933,7 @@ public final class Cachebench {
         private int canGo(Keys keys, int these, int incoming) {
             int beyond = ownersBeyond(keys, held | bit(incoming));
             int theirs = 0;
-            for (int key = 0; key < KEYS; key++) {
+            for (int key = 0; key < KEYS && beyond != 0; key++) {
                 if ((beyond >> at(keys.owner, key) & 1) != 0) {
                     theirs |= these & bit(key);
                 }
@@ -941,17 +941,22 @@ public final class Cachebench {
             return theirs != 0 ? theirs : these;
         }
 
+        private boolean hasShares() {
+            return (at(shares, 0) | at(shares, 1) | at(shares, 2) | at(shares, 3)) != 0;
+        }
+
         /** The owners, a bit for each, who have more of these keys than their share; none without shares. */
         int ownersBeyond(Keys keys, int these) {
+            if (!hasShares()) {
+                return 0;
+            }
             int beyond = 0;
-            int all = 0;
             for (int owner = 0; owner < shares.length; owner++) {
-                all += shares[owner];
                 if (keys.units(these & keys.ofOwner(owner)) > shares[owner]) {
                     beyond |= 1 << owner;
                 }
             }
-            return all > 0 ? beyond : 0;
+            return beyond;
         }
 
         private void putOut(Keys keys, int these) {
@@ -1310,55 +1315,47 @@ public final class Cachebench {
         }
     }
 
-    /** Caches of like keys, fed with the row anew for each question. */
+    /** A cache of like keys, fed with the row anew for each question. */
     private static final class Study {
         int held;
         int lastOut;
         private int hitsSoFar;
-        private final long[] lastAsked = new long[KEYS];
-        private final long[] fewness = new long[KEYS];
-        private final long[] cameIn = new long[KEYS];
-        /** Less for a key that is asked again later; least for those that are not, the greatest key first. */
-        private final long[] soonness = new long[KEYS];
+        /** The held key with the least rank is put out. */
+        private final long[] ranks = new long[KEYS];
         private final int[] nextForKey = new int[KEYS];
         private final int[] askedAgainAt = new int[LONGEST_ROW];
         private final int[] byDistance = new int[KEYS + 1];
 
-        /** Feeds a cache with the first requests of the row. */
+        /** Feeds it with the first requests of the row; NONE is the best rule. */
         void feed(Row row, int rule, int size, int requests) {
             held = 0;
-            hitsSoFar = 0;
             lastOut = NONE;
-            Arrays.fill(fewness, 0);
+            hitsSoFar = 0;
+            Arrays.fill(ranks, 0);
             if (rule == NONE) {
                 lookAhead(row);
             }
             for (int request = 0; request < requests && request < LONGEST_ROW; request++) {
                 int key = at(row.key, request);
-                lastOut = NONE;
-                if (has(held, key)) {
-                    hitsSoFar++;
-                } else {
-                    lastOut = Integer.bitCount(held) >= size ? least(held, ranksBy(rule)) : NONE;
-                    held = held & ~bit(lastOut) | bit(key);
-                    put(cameIn, key, request);
+                boolean isHit = has(held, key);
+                hitsSoFar += isHit ? 1 : 0;
+                lastOut = !isHit && Integer.bitCount(held) >= size ? least(held, ranks) : NONE;
+                held = held & ~bit(lastOut) | bit(key);
+                if (!isHit || rule != FIRST_IN) {
+                    put(ranks, key, rankBehind(rule, key, request));
                 }
-                put(lastAsked, key, request);
-                put(fewness, key, rankAskedAgain(at(fewness, key), request));
-                put(soonness, key, -at(askedAgainAt, request));
             }
         }
 
-        private long[] ranksBy(int rule) {
+        private long rankBehind(int rule, int key, int request) {
             switch (rule) {
-                case LAST_USE: return lastAsked;
-                case FEWEST: return fewness;
-                case FIRST_IN: return cameIn;
-                default: return soonness;
+                case FEWEST: return rankAskedAgain(at(ranks, key), request);
+                case NONE: return -at(askedAgainAt, request);
+                default: return request;
             }
         }
 
-        /** Tells for each request when its key is asked again, or a time behind the row that is later for greater keys. */
+        /** Tells when the key of each request is asked again: if not, behind the row, the later the greater the key. */
         private void lookAhead(Row row) {
             for (int key = 0; key < nextForKey.length; key++) {
                 nextForKey[key] = LONGEST_ROW + key;
@@ -1416,8 +1413,8 @@ public final class Cachebench {
     private static final class ShameSearch {
         static final int LONGEST = 12;
         /** No search needs more than 1089 nodes. */
-        private static final int NODES = 2048;
-        private static final int SLOTS = 4096;
+        private static final int NODES = 1200;
+        private static final int SLOTS = 2048;
         private static final int MARK = 8;
 
         final int[] found = new int[LONGEST];
@@ -1489,7 +1486,7 @@ public final class Cachebench {
 
         /** Makes a node, unless a row ahead of it left the same state with no lesser lead. */
         private void offer(long newState, int newLead, int from, int key) {
-            int slot = (int) (newState * 0x9E3779B97F4A7C15L >>> 52);
+            int slot = (int) (newState * 0x9E3779B97F4A7C15L >>> 53);
             for (int turn = 0; turn < SLOTS; turn++) {
                 int other = at(slots, slot) - 1;
                 if (other < 0 || at(state, other) == newState) {
