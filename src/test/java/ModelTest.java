@@ -953,6 +953,9 @@ public final class ModelTest {
             }
             all.append(answer(x, m, 34, new int[] {c})).append('\n');
         }
+        for (int request = 0; request < m.row.size(); request++) {
+            for (int what = 0; what < 3; what++) all.append(answer(x, m, 21, new int[] {request, what})).append(' ');
+        }
         return all.toString();
     }
 

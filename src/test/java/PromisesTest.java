@@ -604,18 +604,20 @@ public final class PromisesTest {
         Cachebench y = with(4, 4, 4, 9, 3);
         y.setKey(7, 3, 4, 2);
         y.setShares(4, 1, 0, 2, 0);
-        ask(y, "abcdefa!h");
+        ask(y, "a!bcdefa!h");
         String before = picture(y);
         y.clearRow();
-        ask(y, "zyxwvu");
+        y.pass(5);
+        ask(y, "zy!x!w!v!u!");
         y.setCache(4, 6, 2, 3, 0);
         y.setKey(0, 2, 2, 2);
-        due("p14 four", y.undo(), 5);
+        due("p14 five", y.undo(), 5);
         y.undo();
         y.undo();
-        due("p14 all of it", y.undo(), 2);
+        y.undo();
+        due("p14 all of it", y.undo(), 1);
         due("p14 picture", picture(y), before);
-        due("p14 the text stays", y.clearText(), 6);
+        due("p14 the text stays", y.clearText(), 11);
         y.shame(2, 3, 4, 5, 12);
         y.undo();
         due("p14 the row that was found stays", y.shameAt(0), 0);
@@ -637,6 +639,7 @@ public final class PromisesTest {
             }
             for (int request = 0; request < x.rowLength(); request++) {
                 all.append(x.outcome(cache, request)).append(x.requestAt(request, 0)).append(x.requestAt(request, 1));
+                all.append(x.requestAt(request, 2));
             }
         }
         return all.toString();
