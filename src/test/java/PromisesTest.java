@@ -1,77 +1,5 @@
-import java.util.NoSuchElementException;
-
 /** Each promise of the document by itself: ordinary inputs, the edges that it names, wrong inputs. */
-public final class PromisesTest {
-
-    private interface Call {
-        Object answer();
-    }
-
-    private static final Class<?> INDEX = IndexOutOfBoundsException.class;
-    private static final Class<?> NUMBER = IllegalArgumentException.class;
-    private static final Class<?> STATE = IllegalStateException.class;
-    private static final Class<?> ABSENT = NoSuchElementException.class;
-
-    private static int wrong;
-
-    private static void due(String what, Object got, Object want) {
-        if (!got.equals(want)) {
-            wrong++;
-            System.out.println(what + " answered " + got + ", due is " + want);
-        }
-    }
-
-    private static void refused(String what, Class<?> want, Call call) {
-        Object got;
-        try {
-            got = call.answer();
-        } catch (RuntimeException e) {
-            got = e.getClass();
-        }
-        due(what, got, want);
-    }
-
-    /** The keys of a cache by its order, as letters. */
-    private static String order(Cachebench x, int cache) {
-        StringBuilder all = new StringBuilder();
-        for (int place = 0; place < x.cacheAt(cache, 4); place++) {
-            all.append((char) ('a' + x.keyInOrder(cache, place)));
-        }
-        return all.toString();
-    }
-
-    private static void typeAll(Cachebench x, String text) {
-        x.clearText();
-        for (char c : text.toCharArray()) {
-            x.type(c);
-        }
-    }
-
-    private static int ask(Cachebench x, String text) {
-        typeAll(x, text);
-        return x.run();
-    }
-
-    private static int errorOf(String text) {
-        Cachebench x = new Cachebench();
-        typeAll(x, text);
-        return x.errorPlace();
-    }
-
-    private static Cachebench with(int cache, int rule, int room, int lapse, int mode) {
-        Cachebench x = new Cachebench();
-        x.setCache(cache, rule, room, lapse, mode);
-        return x;
-    }
-
-    /** A row of n requests for the key 0. */
-    private static Cachebench longRow(int n) {
-        Cachebench x = new Cachebench();
-        for (int left = n; left > 0; left -= Math.min(left, 50)) {
-            x.draw(1, Math.min(left, 50), 1, 0);
-        }
-        return x;
-    }
+public final class PromisesTest extends Checks {
 
     private static void p01NewObject() {
         Cachebench x = new Cachebench();
@@ -623,28 +551,6 @@ public final class PromisesTest {
         due("p14 the row that was found stays", y.shameAt(0), 0);
     }
 
-    private static String picture(Cachebench x) {
-        StringBuilder all = new StringBuilder().append(x.now());
-        for (int cache = 0; cache < 6; cache++) {
-            all.append('\n').append(order(x, cache));
-            for (int what = 0; what < 9; what++) {
-                all.append(' ').append(x.count(cache, what));
-            }
-            for (int what = 0; what < 8; what++) {
-                all.append(' ').append(x.cacheAt(cache, what));
-            }
-            for (int key = 0; key < 26; key++) {
-                all.append(x.isDirty(cache, key)).append(x.countOf(cache, key, true)).append(x.countOf(cache, key, false));
-                all.append(x.keyAt(key, 0)).append(x.keyAt(key, 1)).append(x.keyAt(key, 2)).append(x.keyAt(key, 3));
-            }
-            for (int request = 0; request < x.rowLength(); request++) {
-                all.append(x.outcome(cache, request)).append(x.requestAt(request, 0)).append(x.requestAt(request, 1));
-                all.append(x.requestAt(request, 2));
-            }
-        }
-        return all.toString();
-    }
-
     private static void p15Open() {
         Cachebench x = new Cachebench();
         due("p15 empty", x.open(0), 0);
@@ -1109,7 +1015,6 @@ public final class PromisesTest {
         p44to45Shame();
         p46to48Measures();
         wildArguments();
-        System.out.println(wrong == 0 ? "all promises hold" : wrong + " answers are not as due");
-        if (wrong != 0) System.exit(1);
+        end();
     }
 }
