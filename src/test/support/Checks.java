@@ -146,6 +146,28 @@ public abstract class Checks {
         }
     }
 
+    /** Runs each test of a class: its package-visible static methods without parameters that answer nothing. */
+    static void runAll(Class<?> tests) {
+        java.lang.reflect.Method[] methods = tests.getDeclaredMethods();
+        java.util.Arrays.sort(methods, java.util.Comparator.comparing(java.lang.reflect.Method::getName));
+        for (java.lang.reflect.Method test : methods) {
+            boolean isTest = test.getModifiers() == java.lang.reflect.Modifier.STATIC && test.getParameterCount() == 0;
+            if (isTest && test.getReturnType() == void.class && !test.isSynthetic()) run(test);
+        }
+        end();
+    }
+
+    private static void run(java.lang.reflect.Method test) {
+        try {
+            test.invoke(null);
+        } catch (java.lang.reflect.InvocationTargetException e) {
+            due(test.getName(), e.getCause().toString(), "to its end");
+            e.getCause().printStackTrace(System.out);
+        } catch (IllegalAccessException e) {
+            due(test.getName(), e.toString(), "to be called");
+        }
+    }
+
     static void end() {
         System.out.println(wrong == 0 ? "all answers are as due" : wrong + " answers are not as due");
         if (wrong != 0) System.exit(1);
