@@ -409,6 +409,17 @@ public final class CacheEdgesTest extends Checks {
         due("b was not fetched", x.count(0, 7), 0);
     }
 
+    static void anEmptiedCacheHasNoOldKeys() {
+        Cachebench x = by(4, 4, 0, 0);
+        ask(x, "abcdea");
+        due("a is old", order(x, 0), "cdea");
+        x.clearRow();
+        ask(x, "abcd");
+        due("a is young", order(x, 0) + x.victim(0, 25), "abcd0");
+        ask(x, "e");
+        due("it is remembered", x.remembers(0, 0), true);
+    }
+
     static void itsShadowsAreEmptiedWithIt() {
         Cachebench x = with(5, 6, 2, 0, 0);
         ask(x, "aaabbca");
@@ -782,6 +793,20 @@ public final class CacheEdgesTest extends Checks {
         due("both have more", x.victim(0, 5), 0);
         due("owner 1 has more", x.setShares(0, 3, 0, 0, 0), 1);
         due("its key goes", x.victim(0, 25), 4);
+        due("owner 0 has more", x.setShares(0, 0, 1, 0, 0), 1);
+        due("its key goes", x.victim(0, 25), 0);
+    }
+
+    static void oneShareAlone() {
+        for (int owner = 0; owner < 4; owner++) {
+            Cachebench x = keysOf(by(0, 3, 0, 0), owner, 1, 2);
+            x.setKey(0, 1, 1, (owner + 1) % 4);
+            x.setKey(25, 1, 1, (owner + 2) % 4);
+            ask(x, "bca");
+            due("without shares", x.victim(0, 25), 1);
+            due("one has more", x.setShares(0, owner == 0 ? 2 : 0, owner == 1 ? 2 : 0, owner == 2 ? 2 : 0, owner == 3 ? 2 : 0), 1);
+            due("a share of the owner " + owner + " alone", x.victim(0, 25), 0);
+        }
     }
 
     // ---- lapse

@@ -351,6 +351,24 @@ public final class CallEdgesTest extends Checks {
         due("the row", x.rowLength(), 300);
     }
 
+    // ---- 20
+
+    /** How many requests of the row ask for it. */
+    static void howManyRequestsAskForAKey() {
+        Cachebench x = new Cachebench();
+        ask(x, "zba!zbz");
+        due("the first and the last request", x.keyAt(KEY_Z, 3), 3);
+        due("b", x.keyAt(1, 3), 2);
+        due("to write is to ask", x.keyAt(0, 3), 1);
+        due("none", x.keyAt(2, 3), 0);
+        x.setCache(0, 0, 4, 0, 0);
+        due("of the row, whatever the caches do", x.keyAt(KEY_Z, 3), 3);
+        due("a full row", longRow(300).keyAt(0, 3), 300);
+        x.undo();
+        x.undo();
+        due("undone", x.keyAt(KEY_Z, 3), 0);
+    }
+
     // ---- 24 to 28
 
     static void whatIsNotHeld() {

@@ -96,8 +96,9 @@ public final class FaceTest {
             }
             if (fields > 20) fault("fields of " + one + ": " + fields);
             for (Method method : one.getDeclaredMethods()) {
+                if (method.getName().startsWith("lambda$")) fault("a lambda in " + one);
                 if (method.getParameterCount() > 7) fault("parameters of " + method);
-                if (!Modifier.isPublic(method.getModifiers()) && open.contains(method.getName())) {
+                if (Modifier.isPrivate(method.getModifiers()) && open.contains(method.getName())) {
                     fault("bears the name of a public method: " + method);
                 }
             }
@@ -110,28 +111,29 @@ public final class FaceTest {
             if (c > 126 || c < 32 && c != '\n') fault("a sign in the source: " + (int) c);
         }
         String code = source.replaceAll("(?s)/\\*.*?\\*/", "").replaceAll("//.*", "");
-        String[] barred = {"->", "::", "\\bcatch\\b", "\\bfinally\\b", "\\bassert\\b", "\\bsynchronized\\b", "Exact\\b",
-            "\\binstanceof\\b", "\\bprotected\\b", "\\btransient\\b", "\\bnative\\b", "\\bvar\\b", "\\byield\\b", "\"",
-            "\\bThread\\b", "System\\.(?!arraycopy)", "\\bObject\\b", "\\bpackage\\b"};
+        String[] barred = {"::", "\\bfinally\\b", "\\bassert\\b", "\\bsynchronized\\b", "Exact\\b",
+            "\\bprotected\\b", "\\bnative\\b", "\\bThread\\b", "System\\.(?!arraycopy)", "\\bObject\\b", "\\bpackage\\b"};
         for (String word : barred) {
             Matcher m = Pattern.compile(word).matcher(code);
             if (m.find()) fault("in the source: " + word);
         }
         Matcher library = Pattern.compile("\\b(Integer|Long|Math|Arrays|System)\\.(\\w+)").matcher(code);
-        Set<String> allowed = Set.of("Integer.bitCount", "Math.max", "Math.min", "Arrays.fill", "System.arraycopy");
+        Set<String> ofArrays = Set.of("Arrays.fill", "Arrays.copyOf", "Arrays.copyOfRange", "System.arraycopy");
         while (library.find()) {
-            if (!allowed.contains(library.group())) fault("of the library: " + library.group());
+            boolean isOfNumbers = library.group().matches("(Integer|Long|Math)\\..*");
+            if (!isOfNumbers && !ofArrays.contains(library.group())) fault("of the library: " + library.group());
         }
         Matcher imports = Pattern.compile("import (.*);").matcher(code);
         while (imports.find()) {
-            if (!Set.of("java.util.Arrays", "java.util.NoSuchElementException").contains(imports.group(1))) {
+            if (!imports.group(1).matches("java\\.util\\.(Arrays|ArrayList|List|Iterator|NoSuchElementException)")) {
                 fault("import " + imports.group(1));
             }
         }
         Matcher thrown = Pattern.compile("throw (.*)").matcher(code);
-        String kinds = "IllegalState|IllegalArgument|IndexOutOfBounds|NoSuchElement";
+        String kinds = "IllegalState|IllegalArgument|IndexOutOfBounds|Arithmetic|UnsupportedOperation|NoSuchElement|Runtime";
         while (thrown.find()) {
-            if (!thrown.group(1).matches("new (" + kinds + ")Exception\\(\\);")) fault("throw " + thrown.group(1));
+            boolean isTold = thrown.group(1).matches("new (" + kinds + ")Exception\\((\"[^\"]*\")?\\);.*");
+            if (!isTold) fault("throw " + thrown.group(1));
         }
     }
 

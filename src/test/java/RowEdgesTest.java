@@ -202,6 +202,58 @@ public final class RowEdgesTest extends Checks {
         due("none is", after(row("abc"), BEST, 2, 3), "ac");
     }
 
+    /** All this is about the row as it is: what was undone or cleared is no part of it. */
+    static void theRowAsItIs() {
+        Cachebench x = row("abc");
+        x.request(1, false);
+        due("b is asked again", victims(x, 2), "..a.");
+        x.undo();
+        due("neither is", victims(x, 2), "..b");
+        Cachebench y = row("abcbbbbbbb");
+        y.clearRow();
+        ask(y, "abc");
+        due("neither is", victims(y, 2), "..b");
+        due("hits", y.hits(BEST, 2), 0);
+        due("distance", y.distance(2), -1);
+        due("phases", y.phases(2), 2);
+        due("mean distance", y.meanDistance(), 0.0f);
+    }
+
+    /** No answer depends on what was asked ahead of it. */
+    static void askedInAnyOrder() {
+        Cachebench asked = new Cachebench();
+        asked.draw(99, 50, 9, 0);
+        for (int first = -1; first <= 2; first++) {
+            for (int rule = -1; rule <= 2; rule++) {
+                for (int size = 1; size <= 9; size++) {
+                    Cachebench fresh = new Cachebench();
+                    fresh.draw(99, 50, 9, 0);
+                    asked.hits(first, size);
+                    due("hits, rule " + rule + " behind " + first, asked.hits(rule, size), fresh.hits(rule, size));
+                }
+                asked.hits(first, 4);
+                Asked fresh = new Asked(rule);
+                String due = keysWhere(asked, key -> fresh.holds(key));
+                due("held, rule " + rule + " behind " + first, after(asked, rule, 4, 40), due);
+            }
+        }
+    }
+
+    /** A bench of which nothing but one rule is asked. */
+    private static final class Asked {
+        private final Cachebench fresh = new Cachebench();
+        private final int rule;
+
+        Asked(int rule) {
+            this.rule = rule;
+            fresh.draw(99, 50, 9, 0);
+        }
+
+        boolean holds(int key) {
+            return fresh.holdsAfter(rule, 4, 40, key);
+        }
+    }
+
     static void rulesThatAreNotTold() {
         Cachebench x = row("abc");
         for (int rule : new int[] {3, 4, 5, 6, 7, -2}) {
@@ -270,6 +322,18 @@ public final class RowEdgesTest extends Checks {
         }
         due("k 3, h 3", x.slack(3, 3), 14);
         due("k 1, h 1", x.slack(1, 1), 1);
+    }
+
+    /** Always 0 or above. */
+    static void slackIsNeverBelowZero() {
+        for (String text : new String[] {"", "a", "50(abcdef)", "11(" + ALL_KEYS + ")", "9(abcdefghijklmlkjihgfedcb)"}) {
+            Cachebench x = row(text);
+            boolean isBelow = false;
+            for (int k = 1; k <= 26; k++) {
+                for (int h = 1; h <= k; h++) isBelow |= x.slack(k, h) < 0;
+            }
+            due("below 0 of " + text, isBelow, false);
+        }
     }
 
     // ---- shame
@@ -378,7 +442,9 @@ public final class RowEdgesTest extends Checks {
     /** Always 0. */
     static void noErrors() {
         for (String text : new String[] {"a", "50(6(a))", "12(" + ALL_KEYS.substring(1) + ")", "5(abcdabeabcde)", "9(abcdefghijklmlkjihgfedcb)"}) {
-            due("errors of " + text, row(text).errors(), 0);
+            Cachebench x = row(text);
+            due("errors of " + text, x.errors(), 0);
+            due("asked again", x.errors(), 0);
         }
         for (int seed = 1; seed <= 20; seed++) {
             Cachebench x = new Cachebench();

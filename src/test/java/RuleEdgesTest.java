@@ -153,6 +153,16 @@ public final class RuleEdgesTest extends Checks {
         due("c goes", afterAsking(x, "e"), "dbe");
     }
 
+    static void theQueueIsGoneThroughTwice() {
+        Cachebench x = by(3, 20);
+        for (int key = 0; key < 10; key++) x.setKey(key, 1, 1, 1);
+        x.setShares(0, 5, 15, 0, 0);
+        ask(x, "abcdefghijklmnopqrstklmnopqrst");
+        due("k is told", x.victim(0, KEY_Z), 10);
+        due("a to j can't go, twice; the others lose their marks", afterAsking(x, "z"), "lmnopqrstabcdefghijz");
+        due("as they have none any more", afterAsking(x, "yx"), "nopqrstabcdefghijzyx");
+    }
+
     static void xKeepsItsMarkWhenYIsFetched() {
         Cachebench x = with(0, 3, 2, 0, 2);
         ask(x, "ab");
@@ -317,6 +327,28 @@ public final class RuleEdgesTest extends Checks {
         due("b is forgotten", remembered(x), "ac");
     }
 
+    static void theOnePutOutLongestAgoNotTheOneThatCameIn() {
+        Cachebench x = by(4, 2);
+        x.setKey(1, 1, 1, 1);
+        x.setShares(0, 2, 0, 0, 0);
+        ask(x, "abc");
+        due("b had to go", order(x, 0), "ac");
+        x.setShares(0, 0, 0, 0, 0);
+        ask(x, "d");
+        due("then a", remembered(x), "ab");
+        ask(x, "e");
+        due("b is forgotten", remembered(x), "ac");
+    }
+
+    static void severalPutOutForOneKey() {
+        Cachebench x = by(4, 4);
+        x.setKey(KEY_Z, 4, 1, 0);
+        ask(x, "bacdz");
+        due("b, a, c, d in this order", remembered(x), "abcd");
+        ask(x, "e");
+        due("b is forgotten", remembered(x), "acdz");
+    }
+
     /** Old, if it is remembered then, behind all that was put out for it. */
     static void rememberedBehindAllThatWasPutOutForIt() {
         Cachebench x = by(4, 1);
@@ -461,7 +493,9 @@ public final class RuleEdgesTest extends Checks {
         Cachebench y = new Cachebench();
         for (int cache = 0; cache < 6; cache++) y.setCache(cache, 6, 1, 0, 0);
         ask(y, "ab");
-        due("both shadows have one key", y.setKey(0, 2, 1, 0), 1);
+        due("a is in neither", y.setKey(0, 2, 1, 0), 1);
+        for (int cache = 0; cache < 6; cache++) y.drop(cache, 1);
+        refused("b, of the size of the room, is", STATE, () -> y.setKey(1, 2, 1, 0));
     }
 
     private static Cachebench adaptingAlone(int lapse, int mode) {

@@ -57,6 +57,15 @@ public final class TextEdgesTest extends Checks {
         due("length", x.clearText(), 0);
     }
 
+    /** What was in the text before it was emptied is no part of it. */
+    static void aTextBehindAnother() {
+        Cachebench x = typeAll(new Cachebench(), "123(a!)b!");
+        due("a number of one digit", typeAll(x, "1").errorPlace(), 1);
+        due("a number of two digits", typeAll(x, "12").errorPlace(), 2);
+        due("two letters", ask(x, "ab"), 2);
+        due("both to read", rowOf(x), "ab");
+    }
+
     /** A byte, 0 to 255: each is taken, whether it fits or not. */
     static void eachByte() {
         for (int c = 0; c <= 255; c++) {

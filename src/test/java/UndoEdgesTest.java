@@ -83,6 +83,14 @@ public final class UndoEdgesTest extends Checks {
         due("the time", x.now(), 85);
     }
 
+    /** An object is used for at most 512 calls: it does as many. */
+    static void asManyCallsAsAnObjectIsUsedFor() {
+        Cachebench x = new Cachebench();
+        for (int calls = 1; calls <= 505; calls++) x.pass(1000);
+        for (int left = 5; left >= 0; left--) due("changes left", x.undo(), left);
+        due("the time", x.now(), 499000);
+    }
+
     /** Undoes the latest change that was not undone. */
     static void undoGoesFurtherBack() {
         Cachebench x = new Cachebench();
@@ -200,9 +208,10 @@ public final class UndoEdgesTest extends Checks {
                         x.pass(3);
                         ask(x, "zyxa!bb!aacdefghij");
                         dropFirst(x, 2);
-                        x.undo();
-                        x.undo();
-                        x.undo();
+                        x.clearRow();
+                        ask(x, "gfedcba");
+                        x.replay();
+                        for (int changes = 0; changes < 6; changes++) x.undo();
                     }
                     ask(x, "bedacg!fa");
                     x.pass(4);
@@ -212,6 +221,23 @@ public final class UndoEdgesTest extends Checks {
                 due("rule " + rule + ", mode " + mode + ", go on alike, which", pictures[0].equals(pictures[1]), true);
             }
         }
+    }
+
+    /** The minute at which a key came in or was last written. */
+    static void minutesAreBroughtBack() {
+        Cachebench x = with(0, 0, 1, 10, 0);
+        ask(x, "a");
+        x.pass(5);
+        ask(x, "a!");
+        x.undo();
+        due("not written at 5: at 9", x.pass(4), 0);
+        due("at 10", x.pass(1), 1);
+        x.undo();
+        x.undo();
+        ask(x, "ba");
+        x.undo();
+        due("it did not come in anew at 5: at 9", x.pass(4), 0);
+        due("at 10", x.pass(1), 1);
     }
 
     static void aFullRowIsBroughtBack() {
