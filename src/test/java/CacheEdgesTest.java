@@ -718,6 +718,37 @@ public final class CacheEdgesTest extends Checks {
         due("useful again", x.count(0, 7), 2);
     }
 
+    /** Two that were fetched stand beside two that were not, and each one's first hit is useful. */
+    static void severalFetchedKeysAtOnce() {
+        Cachebench x = by(0, 4, 0, 2);
+        ask(x, "abcdefghac");
+        due("b behind a, d behind c", order(x, 0) + " " + x.count(0, 6), "abcd 2");
+        ask(x, "b");
+        due("the first of them", x.count(0, 7), 1);
+        ask(x, "c");
+        due("c came in by a request", x.outcome(0, 11) + " " + x.count(0, 7), "0 1");
+        ask(x, "d");
+        due("the second one", x.outcome(0, 12) + " " + x.count(0, 7), "0 2");
+    }
+
+    /** The last key is fetched, tells what is fetched, and lapses, as each other one. */
+    static void theLastKey() {
+        Cachebench x = by(0, 2, 0, 2);
+        ask(x, "abcz");
+        due("nothing at its first request", order(x, 0) + " " + x.count(0, 6), "cz 0");
+        Cachebench y = by(0, 2, 0, 2);
+        ask(y, "azbcaz");
+        due("it was fetched", y.count(0, 6) + " " + y.count(0, 7), "2 1");
+        due("b behind it", order(y, 0), "zb");
+        Cachebench z = by(0, 2, 3, 1);
+        z.pass(5);
+        ask(z, "z");
+        z.pass(2);
+        ask(z, "z!");
+        due("not yet", z.pass(2), 0);
+        due("it lapses", z.pass(1) + " " + z.count(0, 3) + " " + z.count(0, 4), "1 1 1");
+    }
+
     // ---- shares
 
     /** Of an owner who has more than the share: just the share is not more. */

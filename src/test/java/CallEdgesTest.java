@@ -522,6 +522,33 @@ public final class CallEdgesTest extends Checks {
         due("ahead of that", x.hitsBetween(0, 0, 6), 0);
     }
 
+    /** What each call tells of the last request that a row can have. */
+    static void theLastRequestOfAFullRow() {
+        Cachebench x = longRow(299);
+        x.setKey(KEY_Z, 8, 1, 0);
+        x.setCache(1, 0, 8, 0, 0);
+        x.pass(7);
+        x.request(KEY_Z, true);
+        due("its key", x.requestAt(299, 0), KEY_Z);
+        due("to write", x.requestAt(299, 1), 1);
+        due("its minute", x.requestAt(299, 2), 7);
+        due("it passed by", x.outcome(0, 299), 2);
+        due("it came in", x.outcome(1, 299), 1);
+        due("no hit", x.hitsBetween(0, 299, 299), 0);
+        x.undo();
+        x.request(0, false);
+        due("a hit", x.hitsBetween(0, 299, 299) + " " + x.outcome(0, 299), "1 0");
+        due("in the other one it came in", x.outcome(1, 299), 1);
+    }
+
+    static void hitsAndMissesOfTheLastKey() {
+        Cachebench x = by(0, 4);
+        ask(x, "zzzaz");
+        due("hits of z", x.countOf(0, KEY_Z, true), 3);
+        due("misses of z", x.countOf(0, KEY_Z, false), 1);
+        due("hits of y", x.countOf(0, KEY_Z - 1, true), 0);
+    }
+
     // ---- 34 to 36
 
     static void worthsAtBothEnds() {

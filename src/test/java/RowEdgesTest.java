@@ -439,6 +439,13 @@ public final class RowEdgesTest extends Checks {
         due("as floats", (double) row("abcaba").meanDistance() == 8.0 / 3.0, false);
     }
 
+    static void theMeanDistanceOfAFullRow() {
+        Cachebench x = row("b50(a)50(a)50(a)50(a)50(a)48(a)b");
+        due("a full row", x.rowLength(), 300);
+        due("the distance of the last request", x.distance(299), 2);
+        due("it counts", x.meanDistance(), 299.0f / 298.0f);
+    }
+
     /** Always 0. */
     static void noErrors() {
         for (String text : new String[] {"a", "50(6(a))", "12(" + ALL_KEYS.substring(1) + ")", "5(abcdabeabcde)", "9(abcdefghijklmlkjihgfedcb)"}) {

@@ -67,6 +67,40 @@ public final class RuleEdgesTest extends Checks {
         due("so it goes", x.victim(0, KEY_Z), 1);
     }
 
+    /** Many requests do not run into the place of the latest one, nor it into them. */
+    static void fewestInAFullRow() {
+        for (int seed = 1; seed <= 40; seed++) {
+            Cachebench x = by(1, 20);
+            for (int part = 0; part < 6; part++) {
+                x.draw(31 * seed + part, 50, part % 2 == 0 ? 2 : 1 + seed % 12, 0);
+                if (part > 3) dueByFewest(x);
+            }
+        }
+        Cachebench y = by(1, 20);
+        ask(y, "50(ab)50(ab)49(ab)c");
+        due("149, 149 and 1", order(y, 0), "cab");
+        due("the last request of a full row", afterAsking(y, "a"), "cba");
+        Cachebench z = by(1, 20);
+        ask(z, "b50(c)50(c)50(c)50(c)50(c)47(c)a");
+        due("each is asked", order(z, 0), "bac");
+        due("2 are more than 1, not more than 297", afterAsking(z, "a"), "bac");
+    }
+
+    private static void dueByFewest(Cachebench x) {
+        for (int place = 1; place < x.cacheAt(0, 4); place++) {
+            int ahead = x.keyInOrder(0, place - 1);
+            int behind = x.keyInOrder(0, place);
+            int more = x.keyAt(behind, 3) - x.keyAt(ahead, 3);
+            due("in its order", more > 0 || more == 0 && latest(x, ahead) < latest(x, behind), true);
+        }
+    }
+
+    private static int latest(Cachebench x, int key) {
+        int request = x.rowLength() - 1;
+        while (x.requestAt(request, 0) != key) request--;
+        return request;
+    }
+
     // ---- 2 FIRST_IN
 
     /** The one that came in longest ago. */
@@ -538,6 +572,19 @@ public final class RuleEdgesTest extends Checks {
         x.drop(0, 0);
         due("its shadows a", x.setKey(0, 1, 1, 0), 1);
         refused("and hold b", STATE, () -> x.setKey(1, 1, 1, 1));
+    }
+
+    /** Of the same room: what passes by the cache passes by its shadows, and puts nothing out of them. */
+    static void whatPassesByTheShadows() {
+        Cachebench x = adaptingAlone(0, 0);
+        x.setKey(KEY_Z, 3, 1, 0);
+        ask(x, "abzz");
+        x.pass(1);
+        due("no shadow holds it", answerOf(() -> x.setKey(KEY_Z, 2, 1, 0)), 3);
+        x.drop(0, 0);
+        x.drop(0, 1);
+        refused("both hold a", STATE, () -> x.setKey(0, 1, 1, 0));
+        refused("both hold b", STATE, () -> x.setKey(1, 1, 1, 0));
     }
 
     static void shadowsKeepWhatIsDropped() {

@@ -240,6 +240,22 @@ public final class UndoEdgesTest extends Checks {
         due("at 10", x.pass(1), 1);
     }
 
+    /** The first hit on a key that was fetched is useful, also when it was made before and undone. */
+    static void fetchedKeysAreBroughtBack() {
+        Cachebench x = with(0, 0, 2, 0, 2);
+        ask(x, "abca");
+        ask(x, "b");
+        due("useful", x.count(0, 7), 1);
+        x.undo();
+        due("not yet", x.count(0, 7), 0);
+        ask(x, "b");
+        due("useful again", x.count(0, 7), 1);
+        x.undo();
+        x.undo();
+        ask(x, "bb");
+        due("b was not fetched then", x.count(0, 6) + " " + x.count(0, 7), "0 0");
+    }
+
     static void aFullRowIsBroughtBack() {
         Cachebench x = new Cachebench();
         for (int seed = 1; seed <= 6; seed++) x.draw(seed, 50, 26, 50);
