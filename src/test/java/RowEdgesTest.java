@@ -354,6 +354,32 @@ public final class RowEdgesTest extends Checks {
         due("by fewer requests too", shame(3, 2, 3, 4, 7), "aabbcdc");
     }
 
+    /** Rule, room, greater, keys, most and the row, for all arguments: found once by a search through all rows. */
+    static void everySearch() {
+        StringBuilder all = new StringBuilder();
+        for (int rule = 2; rule <= 3; rule++) {
+            for (int room = 1; room <= 4; room++) {
+                for (int greater = room + 1; greater <= 6; greater++) searches(all, rule, room, greater);
+            }
+        }
+        due("what is found", all.toString(), "2345 12 abcdabeabcde\n"
+            + "3234 7 aabbcdc\n3234 8 aabbcdc\n3234 9 aabbcdc\n"
+            + "3235 7 aabbcdc\n3235 8 aabbcdc\n3235 9 aabbcdc\n"
+            + "3345 9 aabbccded\n");
+    }
+
+    /** The searches that find a row, one behind the other by the same object. */
+    private static void searches(StringBuilder all, int rule, int room, int greater) {
+        Cachebench x = new Cachebench();
+        for (int keys = 2; keys <= 5; keys++) {
+            for (int most = 1; most <= (rule == 2 ? 12 : 9); most++) {
+                if (x.shame(rule, room, greater, keys, most) < 0) continue;
+                all.append(rule).append(room).append(greater).append(keys).append(' ').append(most);
+                all.append(' ').append(found(x)).append('\n');
+            }
+        }
+    }
+
     static void tooShortOrTooFewKeys() {
         due("11 requests", shame(2, 3, 4, 5, 11), "");
         due("4 keys", shame(2, 3, 4, 4, 12), "");
